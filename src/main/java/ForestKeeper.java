@@ -436,7 +436,7 @@ public final class ForestKeeper {
     }
 
     private int findRoot(int a) {
-        floodPart(a);
+        flood.spread(edges, a, NONE, 0);
         int best = a;
         for (int i = 0; i < flood.length; i++) {
             int k = flood.line[i];
@@ -448,11 +448,11 @@ public final class ForestKeeper {
     }
 
     private void floodFromRoot(int a) {
-        floodPart(findRoot(a));
+        flood.spread(edges, findRoot(a), NONE, 0);
     }
 
     private void floodBelow(int a) {
-        floodFromRoot(a);
+        flood.spread(edges, findRoot(a), NONE, 0);
         // Without the edge to its PARENT, a KNOT leads to just those BELOW it.
         flood.spread(edges, a, flood.by[a], 0);
     }
