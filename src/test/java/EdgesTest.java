@@ -21,6 +21,7 @@ public final class EdgesTest {
         insteadChangesNothing();
         toldAndWeight();
         bridgesAndCutKnots();
+        cutKnotsAtTheFirst();
         counts();
         totals();
         d.finish();
@@ -292,6 +293,24 @@ public final class EdgesTest {
         d.is("P5 cut", x.cut(2), NONE);
         d.is("P9 bridges", x.count(5), 3);
         d.is("P9 cut knots", x.count(6), 4);
+    }
+
+    /** KNOT 0 is where a walk over the EDGES begins: it must be told like any other one. */
+    private static void cutKnotsAtTheFirst() {
+        ForestKeeper x = d.keeper(1, 0, 0, 0, 0);
+        d.join(x, 0, 1, 0, 0, 2, 0);
+        d.is("P9 cut knots", x.count(6), 1);
+        d.is("P23 the middle of a row", x.below(0, 4), 1);
+        d.is("P9 bridges", x.count(5), 2);
+        d.is("P4 a ring", x.edge(1, 2, 0), 2);
+        d.is("P9 cut knots", x.count(6), 0);
+        d.is("P23 in a ring", x.below(0, 4), 0);
+        d.is("P4 a leaf", x.edge(3, 0, 0), 3);
+        d.is("P9 cut knots", x.count(6), 1);
+        d.is("P9 bridges", x.count(5), 1);
+        d.is("P5 the ring opens", x.cut(0), 2);
+        d.is("P9 bridges", x.count(5), 3);
+        d.is("P9 cut knots", x.count(6), 2);
     }
 
     private static void counts() {

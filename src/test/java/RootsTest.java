@@ -82,6 +82,8 @@ public final class RootsTest {
         d.is("P24 meet", x.meet(3, 2), 2);
         d.is("P24 meet", x.meet(2, 3), 2);
         d.is("P24 at the root", x.meet(4, 0), 0);
+        d.is("P24 at the root", x.meet(0, 4), 0);
+        d.is("P24 the second deeper", x.meet(1, 4), 1);
         d.is("P24 itself", x.meet(3, 3), 3);
         d.is("P24 alone", x.meet(5, 5), 5);
         d.is("P24 apart", x.meet(3, 5), NONE);
