@@ -1,5 +1,4 @@
 import java.io.IOException;
-import java.lang.reflect.Constructor;
 import java.lang.reflect.Field;
 import java.lang.reflect.Method;
 import java.lang.reflect.Modifier;
@@ -12,21 +11,11 @@ import java.util.HashSet;
 import java.util.List;
 import java.util.Map;
 import java.util.Set;
-import java.util.TreeSet;
 import java.util.regex.Matcher;
 import java.util.regex.Pattern;
 
-/** The face of the document, and those rules of LANGUAGE.md that a reading by machine can see. */
+/** Those rules of LANGUAGE.md that a reading by machine can see; FaceTest holds the face. */
 public final class LanguageTest {
-    private static final String[] FACE = {
-        "int knot(long)", "int kind(int)", "int edge(int,int,long)", "int cut(int)",
-        "int instead(int)", "int told(int,int)", "long weight(int)", "int count(int)",
-        "long total()", "int together(int,int)", "int size(int)", "int member(int,int)",
-        "int way(int,int)", "int between(int,int,int)", "int heaviest(int,int)",
-        "long sum(int,int)", "long least(int,int)", "int add(int,int,long)", "long value(int)",
-        "int set(int,long)", "int root(int)", "int below(int,int)", "int meet(int,int)",
-        "long sumBelow(int)", "int addBelow(int,long)", "int undo()", "int put(int,int,int,int)",
-        "int forge(int,int,int)", "int status()"};
     private static final Pattern HEAD = Pattern.compile(
             "(?m)^ +(?:public |private |static |final )*[\\w\\[\\]]+ (\\w+)\\(([^)]*)\\) \\{$");
     private static final Due d = new Due();
@@ -35,10 +24,13 @@ public final class LanguageTest {
         String text = Files.readString(Path.of("src/main/java/ForestKeeper.java"),
                 StandardCharsets.ISO_8859_1);
         String code = withoutComments(text);
-        face();
-        classes();
+        Face face = new Face();
+        classes(face);
         words(text, code);
-        methods(code);
+        loops(code);
+        divisors(code);
+        madeThings(code);
+        methods(code, face);
         d.finish();
     }
 
@@ -50,47 +42,9 @@ public final class LanguageTest {
         d.is(rule, broken ? 1 : 0, 0);
     }
 
-    private static void face() {
-        Class<?> c = ForestKeeper.class;
-        no("1: public and final", !Modifier.isPublic(c.getModifiers())
-                || !Modifier.isFinal(c.getModifiers()));
-        Set<String> open = new TreeSet<>();
-        for (Method m : c.getDeclaredMethods()) {
-            if (!Modifier.isPrivate(m.getModifiers())) {
-                no("1: only public ones beside private ones: " + m,
-                        m.getModifiers() != Modifier.PUBLIC);
-                open.add(told(m));
-            }
-        }
-        no("1: the face's methods: " + open, !open.equals(new TreeSet<>(List.of(FACE))));
-        Constructor<?>[] made = c.getDeclaredConstructors();
-        no("1: one public constructor without parameters", made.length != 1
-                || made[0].getModifiers() != Modifier.PUBLIC || made[0].getParameterCount() != 0);
-        Set<String> constants = new TreeSet<>();
-        for (Field f : c.getDeclaredFields()) {
-            if (!Modifier.isPrivate(f.getModifiers())) {
-                constants.add(f.getType() + " " + f.getName());
-            }
-        }
-        no("1: the face's constants: " + constants, !constants.equals(
-                new TreeSet<>(List.of("int NONE", "int BAD", "int STATE", "int FULL", "long NO"))));
-    }
-
-    private static String told(Method m) {
-        List<String> types = new ArrayList<>();
-        for (Class<?> p : m.getParameterTypes()) {
-            types.add(p.getName());
-        }
-        return m.getReturnType().getName() + " " + m.getName() + "(" + String.join(",", types) + ")";
-    }
-
-    private static void classes() {
+    private static void classes(Face face) {
         List<Class<?>> all = new ArrayList<>(List.of(ForestKeeper.class.getDeclaredClasses()));
         no("11: at most twelve classes", all.size() + 1 > 12);
-        Set<String> faceNames = new HashSet<>();
-        for (String s : FACE) {
-            faceNames.add(s.replaceAll("^\\w+ (\\w+).*", "$1"));
-        }
         for (Class<?> c : all) {
             int how = c.getModifiers();
             no("1, 2: static, not public: " + c, !Modifier.isStatic(how)
@@ -99,7 +53,7 @@ public final class LanguageTest {
         all.add(ForestKeeper.class);
         for (Class<?> c : all) {
             for (Method m : c.getDeclaredMethods()) {
-                no("1: a name of the face: " + m, faceNames.contains(m.getName())
+                no("1: a name of the face: " + m, face.names.contains(m.getName())
                         && !Modifier.isPublic(m.getModifiers()));
                 no("11: at most seven parameters: " + m, m.getParameterCount() > 7);
             }
@@ -128,11 +82,13 @@ public final class LanguageTest {
         }
         for (String word : List.of("throw", "throws", "try", "catch", "synchronized", "assert",
                 "package", "goto", "volatile", "transient", "native", "strictfp", "var", "yield",
-                "String", "Object", "Integer", "ArrayList", "List", "double", "float", "null")) {
+                "String", "Object", "Integer", "ArrayList", "List", "double", "float", "null",
+                "instanceof", "while", "do", "short", "byte", "char", "enum", "record",
+                "interface", "abstract", "extends", "implements", "protected", "this", "super")) {
             no("a word that this class does without: " + word,
                     Pattern.compile("\\b" + word + "\\b").matcher(code).find());
         }
-        for (String sign : List.of("->", "::", "@", "\"", "while")) {
+        for (String sign : List.of("->", "::", "@", "\"", "'", "[][]", "<>", "static {")) {
             no("a sign that this class does without: " + sign, code.contains(sign));
         }
         Matcher imports = Pattern.compile("(?m)^import (.*);$").matcher(code);
@@ -149,6 +105,57 @@ public final class LanguageTest {
         }
     }
 
+    /** Rule 9: each loop counts, by one, against a bound that stands in its own head. */
+    private static void loops(String code) {
+        Matcher heads = Pattern.compile("\\bfor \\(([^;]*);([^;]*);([^{]*)\\) \\{").matcher(code);
+        int found = 0;
+        while (heads.find()) {
+            found++;
+            String head = heads.group();
+            Matcher counter = Pattern.compile("int (\\w+) = ").matcher(heads.group(1));
+            no("9: a counter: " + head, !counter.find());
+            String name = counter.group(1);
+            boolean up = heads.group(3).trim().equals(name + "++");
+            boolean down = heads.group(3).trim().equals(name + "--");
+            no("9: it counts: " + head, !up && !down);
+            no("9: a bound: " + head, !Pattern.compile("(^|&& ) ?" + name + (up ? " <=? " : " >= ")
+                    + "[\\w. *]+(&&.*)?$").matcher(heads.group(2)).find() || heads.group(2).contains("||"));
+            String body = bodyAt(code, heads.end() - 1);
+            no("9: the counter is left alone: " + head,
+                    Pattern.compile("\\b" + name + " ?([-+*/]?=[^=]|\\+\\+|--)").matcher(body).find());
+        }
+        d.is("9: loops were found, and no other ones", found,
+                Pattern.compile("\\bfor\\b").matcher(code).results().count());
+        d.is("9: as many as are expected at least", found >= 20 ? 1 : 0, 1);
+    }
+
+    /** Rule 7: what divides is a number that is not 0, but for the one that is looked at. */
+    private static void divisors(String code) {
+        Matcher found = Pattern.compile("(\\S+) [/%]=? (\\w+)").matcher(code);
+        while (found.find()) {
+            boolean looked = code.contains("n == 0 ? refuse(BY_ZERO) : grant(1000 / n)")
+                    && found.group().equals("grant(1000 / n");
+            no("7: a divisor: " + found.group(),
+                    !looked && !found.group(2).equals("2") && !found.group(2).equals("MOST_CHANGES"));
+        }
+        Matcher casts = Pattern.compile("\\((\\w+)\\) \\w").matcher(code);
+        while (casts.find()) {
+            no("6: a cast among objects: " + casts.group(), !casts.group(1).equals("int"));
+        }
+    }
+
+    /** Rule 12: rows are made where fields are, with lengths that are constants. */
+    private static void madeThings(String code) {
+        Matcher found = Pattern.compile("(?m)^(.*)\\bnew (\\w+)([\\[(])([^\\])]*)").matcher(code);
+        while (found.find()) {
+            boolean field = found.group(1).matches(" +(private )?final [\\w\\[\\]]+ \\w+ = ");
+            boolean tray = found.group().equals("            trays[i] = new Tray(");
+            no("12: made by a call: " + found.group(), !field && !tray);
+            no("7: a length: " + found.group(), found.group(3).equals("[")
+                    && !found.group(4).matches("[A-Z_]+|2 \\* MOST_EDGES|MOST_EDGES \\* MOST_LEVEL"));
+        }
+    }
+
     /** The body of a method, from the brace that opens it to the one that closes it. */
     private static String bodyAt(String code, int open) {
         int depth = 0;
@@ -161,7 +168,7 @@ public final class LanguageTest {
         return code.substring(open);
     }
 
-    private static void methods(String code) {
+    private static void methods(String code, Face face) {
         // Methods of one name in several classes are taken as one that calls what each calls.
         Map<String, Set<String>> calls = new HashMap<>();
         Map<String, String> bodies = new HashMap<>();
@@ -171,7 +178,7 @@ public final class LanguageTest {
             no("11: at most sixty lines: " + heads.group(1), body.lines().count() > 60);
             bodies.merge(heads.group(1), body, String::concat);
         }
-        d.is("methods were found", bodies.size() >= FACE.length + 30 ? 1 : 0, 1);
+        d.is("methods were found", bodies.size() >= face.names.size() + 30 ? 1 : 0, 1);
         for (String name : bodies.keySet()) {
             Matcher called = Pattern.compile("\\b(\\w+)\\(").matcher(bodies.get(name));
             Set<String> names = new HashSet<>();
